@@ -1,0 +1,34 @@
+/** Counts and prints the answers that are not as due. */
+final class Checks {
+    private final String name;
+    private int made;
+    private int wrong;
+
+    Checks(String name) {
+        this.name = name;
+    }
+
+    void same(String what, long got, long due) {
+        made++;
+        if (got != due) {
+            wrong++;
+            System.out.println(name + ": " + what + " answered " + got + ", due is " + due);
+        }
+    }
+
+    void yes(String what, boolean got) {
+        same(what, got ? 1 : 0, 1);
+    }
+
+    void no(String what, boolean got) {
+        same(what, got ? 1 : 0, 0);
+    }
+
+    /** Ends the program with exit code 1 if an answer was wrong, or if nothing was looked at. */
+    void end() {
+        System.out.println(name + ": " + (made - wrong) + " of " + made + " answers are as due");
+        if (wrong > 0 || made == 0) {
+            System.exit(1);
+        }
+    }
+}
