@@ -83,10 +83,10 @@ public final class EndingTest {
         Deals.deal(x, Deals.ROUND);
         x.begin(0, 1, 0, 1);
         Deals.calls(x, 0, 7, 0, 0, 0);
-        for (int n = 0; n < 36; n++) {
-            x.play(0, highestAllowed(x));
-        }
         Brute brute = new Brute(x);
+        for (int n = 0; n < 36; n++) {
+            brute.play(x, brute.aCardFrom(51));
+        }
         told(x, "ROUND, the highest first", brute.best(), brute.leastBest());
     }
 
@@ -154,21 +154,6 @@ public final class EndingTest {
         told(x, "north's queen", 0, 49);
     }
 
-    private static int highestAllowed(BridgeClub x) {
-        // The hands are known, so that few calls are spent on looking for a card.
-        int turn = x.table(0, 4);
-        int led = x.table(0, 11) == 0 ? -1 : x.played(0, 4 * (x.table(0, 9) + x.table(0, 10))) / 13;
-        for (int pass = 0; pass < 2; pass++) {
-            for (int c = 51; c >= 0; c--) {
-                boolean fits = pass == 1 || led == -1 || c / 13 == led;
-                if (fits && Deals.seat(Deals.ROUND, c) == turn && x.allowed(0, c)) {
-                    return c;
-                }
-            }
-        }
-        return -1;
-    }
-
     private static void claims() {
         BridgeClub x = new BridgeClub();
         Deals.deal(x, Deals.SUITS);
@@ -222,14 +207,10 @@ public final class EndingTest {
         }
         Deals.calls(x, 0, 3 + random.nextInt(35), 0, 0, 0);
         int cards = 36 + (seed % 3 == 0 ? random.nextInt(16) : seed % 3);
-        for (int n = 0; n < cards; n++) {
-            int c = random.nextInt(52);
-            while (!x.allowed(0, c)) {
-                c = (c + 1) % 52;
-            }
-            x.play(0, c);
-        }
         Brute brute = new Brute(x);
+        for (int n = 0; n < cards; n++) {
+            brute.play(x, brute.aCardFrom(random.nextInt(52)));
+        }
         int best = brute.best();
         told(x, "ending " + seed, best, brute.leastBest());
         CHECKS.no("ending " + seed + ": claim of one more", x.claim(0, best + 1));
@@ -237,28 +218,43 @@ public final class EndingTest {
         CHECKS.yes("ending " + seed + ": claim", x.claim(0, best));
     }
 
-    /** Every way to play the cards left, none passed over. */
+    /** Follows the cards from the first one on, and tries every way to play those left, none passed over. */
     private static final class Brute {
         private final int[] seatOf = new int[52];
         private final int[] trick = new int[4];
         private final int trump;
         private final int side;
-        private final int leader;
-        private final int inTrick;
+        private int leader;
+        private int inTrick;
 
+        /** Board 1 at table 0, behind the auction. */
         Brute(BridgeClub x) {
             for (int c = 0; c < 52; c++) {
                 seatOf[c] = x.hand(1, c);
             }
-            int n = 0;
-            for (; x.played(0, n) != -1; n++) {
-                seatOf[x.played(0, n)] = -1;
-                trick[n % 4] = x.played(0, n);
-            }
             trump = x.table(0, 6);
             side = x.table(0, 7) % 2;
             leader = x.table(0, 13);
-            inTrick = n % 4;
+        }
+
+        /** The next card from this one downwards (then from the highest) that may be played. */
+        int aCardFrom(int card) {
+            int c = card;
+            for (int i = 0; i < 52 && !mayPlay((leader + inTrick) % 4, inTrick, c); i++) {
+                c = (c + 51) % 52;
+            }
+            return c;
+        }
+
+        void play(BridgeClub x, int card) {
+            CHECKS.same("play(0, " + card + ")", x.play(0, card), inTrick == 3 ? 1 : 0);
+            seatOf[card] = -1;
+            trick[inTrick] = card;
+            inTrick++;
+            if (inTrick == 4) {
+                leader = (leader + highest()) % 4;
+                inTrick = 0;
+            }
         }
 
         int best() {

@@ -320,6 +320,12 @@ final class PlainClub {
         return st;
     }
 
+    /** For tests: the first card from this one on that may be played at a table in play. */
+    int aCardFrom(int table, int card) {
+        TreeSet<Integer> choices = standing(at(table)).choices();
+        return choices.ceiling(card) != null ? choices.ceiling(card) : choices.first();
+    }
+
     int play(int table, int card) {
         Seating s = at(table);
         if (s == null || !isOver(s) || !standing(s).choices().contains(card)) {

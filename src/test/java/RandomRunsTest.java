@@ -6,7 +6,8 @@ import java.util.Random;
  */
 public final class RandomRunsTest {
     private static final int RUNS = 300;
-    private static final int CALLS = 512;
+    /** An object promises nothing behind its 512th call; a step makes at most four. */
+    private static final int LAST_STEP = 508;
     private static final int[] WILD = {
         -1, 0, 1, 2, 3, 4, 5, 7, 8, 9, 10, 12, 13, 14, 20, 35, 36, 37, 38, 39, 40, 51, 52, 53, 100, 101, 200, -2,
         1000, Integer.MAX_VALUE, Integer.MIN_VALUE, Integer.MIN_VALUE + 1,
@@ -21,6 +22,7 @@ public final class RandomRunsTest {
     private final int tables;
     private final int passing;
     private final int asking;
+    private int calls;
 
     private RandomRunsTest(Checks checks, int run) {
         this.checks = checks;
@@ -36,15 +38,15 @@ public final class RandomRunsTest {
         int runs = args.length > 0 ? Integer.parseInt(args[0]) : RUNS;
         for (int run = 0; run < runs; run++) {
             RandomRunsTest test = new RandomRunsTest(checks, run);
-            for (int i = 0; i < CALLS; i++) {
-                test.step(i);
+            while (test.calls <= LAST_STEP) {
+                test.step();
             }
         }
         checks.end();
     }
 
-    private void step(int i) {
-        if (i == 0 || chance(2)) {
+    private void step() {
+        if (calls == 0 || chance(2)) {
             int seed = random.nextInt();
             due("deal(" + seed + ")", club.deal(seed), plain.deal(seed));
         } else if (chance(asking)) {
@@ -70,6 +72,7 @@ public final class RandomRunsTest {
     }
 
     private void due(String call, long got, long want) {
+        calls++;
         checks.same("run " + run + ": " + call, got, want);
     }
 
@@ -86,20 +89,10 @@ public final class RandomRunsTest {
             int c = chance(passing) ? 0 : chance(30) ? 1 + random.nextInt(2) : bid + random.nextInt(6);
             due("call(" + t + ", " + c + ")", club.call(t, c), plain.call(t, c));
         } else {
-            int c = anAllowedCard(t);
+            int c = plain.aCardFrom(t, random.nextInt(52));
             due("play(" + t + ", " + c + ")", club.play(t, c), plain.play(t, c));
             lookAtEnding(t);
         }
-    }
-
-    private int anAllowedCard(int t) {
-        int from = random.nextInt(52);
-        for (int i = 0; i < 52; i++) {
-            if (club.allowed(t, (from + i) % 52)) {
-                return (from + i) % 52;
-            }
-        }
-        return -1;
     }
 
     private void lookAtEnding(int t) {
