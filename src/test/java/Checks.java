@@ -1,6 +1,7 @@
 /** Counts and prints the answers that are not as due. */
 final class Checks {
     private final String name;
+    private String about = "";
     private int made;
     private int wrong;
 
@@ -8,11 +9,16 @@ final class Checks {
         this.name = name;
     }
 
+    /** The promise (0: the terms) and the words of the document that the next answers are about. */
+    void about(int promise, String words) {
+        about = (promise == 0 ? "terms" : "promise " + promise) + ", \"" + words + "\": ";
+    }
+
     void same(String what, long got, long due) {
         made++;
         if (got != due) {
             wrong++;
-            System.out.println(name + ": " + what + " answered " + got + ", due is " + due);
+            System.out.println(name + ": " + about + what + " answered " + got + ", due is " + due);
         }
     }
 
