@@ -77,24 +77,14 @@ public final class BoundsOfScoresTest {
         x.each("result -1 *", Run.outside(0, 9), -1).due("result 0 9 = 0", "result 0 0 = 1");
     }
 
-    /** Board 1 of SUITS: a seat bids, the winner takes all tricks, and nobody is vulnerable. */
-    private static Run allTricks(int bidder, int winner, int... calls) {
-        Run x = new Run(CHECKS).deal(Deals.SUITS).make("begin 0 1 10 11");
-        for (int i = 0; i < bidder; i++) {
-            x.calls(0, 0);
-        }
-        x.calls(0, calls).suitTricks(0, (bidder + 1) % 4, winner, 9);
-        return x.make("claim 0 " + x.ask("best 0"));
-    }
-
     private static void scoreForSideZero() {
         CHECKS.about(0, "A result's SCORE is that for side 0 (so what side 1 wins counts less); PASSED: 0.");
-        tells(allTricks(0, 0, 33, 0, 0, 0), 0, 1, 10, 11, 7, 0, 0, 0, 13, 1440, 0);
-        tells(allTricks(2, 0, 33, 0, 0, 0), 0, 1, 10, 11, 7, 0, 2, 0, 13, 1440, 0);
-        tells(allTricks(1, 1, 34, 0, 0, 0), 0, 1, 10, 11, 7, 1, 1, 0, 13, -1440, 0);
-        tells(allTricks(3, 1, 34, 0, 0, 0), 0, 1, 10, 11, 7, 1, 3, 0, 13, -1440, 0);
-        tells(allTricks(0, 1, 34, 1, 0, 0, 0), 0, 1, 10, 11, 7, 1, 0, 1, 0, -3500, 0);
-        tells(allTricks(1, 0, 33, 1, 2, 0, 0, 0), 0, 1, 10, 11, 7, 0, 1, 2, 0, 7000, 0);
+        tells(new Run(CHECKS).allTricks(0, 0, 33, 0, 0, 0), 0, 1, 10, 11, 7, 0, 0, 0, 13, 1440, 0);
+        tells(new Run(CHECKS).allTricks(2, 0, 33, 0, 0, 0), 0, 1, 10, 11, 7, 0, 2, 0, 13, 1440, 0);
+        tells(new Run(CHECKS).allTricks(1, 1, 34, 0, 0, 0), 0, 1, 10, 11, 7, 1, 1, 0, 13, -1440, 0);
+        tells(new Run(CHECKS).allTricks(3, 1, 34, 0, 0, 0), 0, 1, 10, 11, 7, 1, 3, 0, 13, -1440, 0);
+        tells(new Run(CHECKS).allTricks(0, 1, 34, 1, 0, 0, 0), 0, 1, 10, 11, 7, 1, 0, 1, 0, -3500, 0);
+        tells(new Run(CHECKS).allTricks(1, 0, 33, 1, 2, 0, 0, 0), 0, 1, 10, 11, 7, 0, 1, 2, 0, 7000, 0);
     }
 
     /** The dealer bids 1 club, and side 0 or 1 takes all tricks; vulnerable are none, side 0, side 1, both. */

@@ -25,14 +25,8 @@ public final class BoundsOfWritingTest {
         CHECKS.end();
     }
 
-    /** Board 1 of SUITS at table 0: a seat bids, and the winner takes all tricks. */
     private static Run played(int bidder, int winner, int... calls) {
-        Run x = new Run(CHECKS).deal(Deals.SUITS).make("begin 0 1 10 11");
-        for (int i = 0; i < bidder; i++) {
-            x.calls(0, 0);
-        }
-        x.calls(0, calls).suitTricks(0, (bidder + 1) % 4, winner, 9);
-        return x.make("claim 0 " + x.ask("best 0"));
+        return new Run(CHECKS).allTricks(bidder, winner, calls);
     }
 
     private static void written(Run x, int i, String due) {

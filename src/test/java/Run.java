@@ -127,6 +127,16 @@ final class Run {
         return this;
     }
 
+    /** A SUITS board at table 0: one seat bids first, one takes all tricks, and the last of these are claimed. */
+    Run allTricks(int bidder, int winner, int... row) {
+        deal(Deals.SUITS).make("begin 0 1 10 11");
+        for (int i = 0; i < bidder; i++) {
+            calls(0, 0);
+        }
+        calls(0, row).suitTricks(0, (bidder + 1) % 4, winner, 9);
+        return make("claim 0 " + ask("best 0"));
+    }
+
     static int[] range(int from, int to) {
         int[] all = new int[to - from + 1];
         for (int i = 0; i < all.length; i++) {
