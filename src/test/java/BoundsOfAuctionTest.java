@@ -20,6 +20,7 @@ public final class BoundsOfAuctionTest {
         passedComesAtOnce();
         callWithoutAnAuction();
         turnsComeRound();
+        contracts();
         declarers();
         declarerOfThisAuctionAlone();
         backInAnAuction();
@@ -247,6 +248,25 @@ public final class BoundsOfAuctionTest {
                 x.due("table " + b + " 4 = " + (b - 1 + i) % 4, "call " + b + " " + (3 + i) + " = 0");
             }
         }
+    }
+
+    private static void contracts() {
+        CHECKS.about(0, "The CONTRACT is the latest BID, doubled or redoubled if that came behind it");
+        contract(1, 0, 0, 3, 0, 0, 0);
+        contract(1, 0, 1, 3, 1, 0, 0, 0);
+        contract(1, 0, 1, 3, 0, 0, 1, 0, 0, 0);
+        contract(1, 0, 2, 3, 1, 2, 0, 0, 0);
+        contract(1, 0, 2, 3, 0, 0, 1, 0, 0, 2, 0, 0, 0);
+        contract(1, 1, 0, 3, 1, 4, 0, 0, 0);
+        contract(1, 1, 0, 3, 1, 2, 4, 0, 0, 0);
+        contract(1, 1, 1, 3, 1, 2, 4, 1, 0, 0, 0);
+        contract(7, 4, 0, 3, 1, 0, 0, 2, 37, 0, 0, 0);
+        contract(7, 4, 2, 0, 0, 0, 37, 1, 2, 0, 0, 0);
+    }
+
+    private static void contract(int level, int strain, int doubled, int... calls) {
+        Run x = begun().calls(0, calls).due("table 0 3 = 2", "table 0 5 = " + level, "table 0 6 = " + strain);
+        x.due("table 0 8 = " + doubled);
     }
 
     private static void declarers() {

@@ -10,6 +10,7 @@ public final class BoundsOfScoresTest {
 
     public static void main(String[] args) {
         resultsOfPassed();
+        resultsAsTheyCame();
         noSuchResult();
         nothingElseOfAResult();
         scoreForSideZero();
@@ -55,6 +56,14 @@ public final class BoundsOfScoresTest {
         for (int what = 0; what < due.length; what++) {
             x.due("result " + i + " " + what, due[what]);
         }
+    }
+
+    private static void resultsAsTheyCame() {
+        CHECKS.about(20, "Of a result (from 0 on, as they came)");
+        Run x = new Run(CHECKS).make("deal 1", "deal 2", "deal 3", "begin 0 1 0 1", "begin 1 2 2 3", "begin 9 3 38 39");
+        x.calls(9, 0, 0, 0, 0).due("result 0 0 = 3", "result 0 1 = 38", "result 0 2 = 39", "result 1 0 = -1");
+        x.calls(1, 0, 0, 0, 0).calls(0, 0, 0, 0, 0).due("result 0 0 = 3", "result 1 0 = 2", "result 2 0 = 1");
+        x.due("result 2 1 = 0", "result 2 2 = 1", "result 3 0 = -1");
     }
 
     private static void noSuchResult() {

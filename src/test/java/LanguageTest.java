@@ -22,7 +22,7 @@ import javax.tools.JavaCompiler;
 import javax.tools.StandardJavaFileManager;
 import javax.tools.ToolProvider;
 
-/** Rules 2 to 6 and 8 to 12 of LANGUAGE.md, looked at in the program's syntax tree with its types. */
+/** What of rules 2 to 11 of LANGUAGE.md can be seen in the program's syntax tree with its types. */
 public final class LanguageTest extends TreePathScanner<Void, Void> {
     private static final Checks CHECKS = new Checks("LanguageTest");
     private static final Path SOURCE = Path.of("src/main/java/BridgeClub.java");
