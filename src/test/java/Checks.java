@@ -2,6 +2,7 @@
 final class Checks {
     private final String name;
     private String about = "";
+    private int madeBefore = -1;
     private int made;
     private int wrong;
 
@@ -11,7 +12,17 @@ final class Checks {
 
     /** The promise (0: the terms) and the words of the document that the next answers are about. */
     void about(int promise, String words) {
+        endOfWords();
+        madeBefore = made;
         about = (promise == 0 ? "terms" : "promise " + promise) + ", \"" + words + "\": ";
+    }
+
+    /** Words that were quoted without a look at anything have no test. */
+    private void endOfWords() {
+        if (made == madeBefore) {
+            wrong++;
+            System.out.println(name + ": " + about + "nothing was looked at");
+        }
     }
 
     void same(String what, long got, long due) {
@@ -32,6 +43,7 @@ final class Checks {
 
     /** Ends the program with exit code 1 if an answer was wrong, or if nothing was looked at. */
     void end() {
+        endOfWords();
         System.out.println(name + ": " + (made - wrong) + " of " + made + " answers are as due");
         if (wrong > 0 || made == 0) {
             System.exit(1);

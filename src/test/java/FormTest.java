@@ -16,6 +16,7 @@ import java.util.TreeSet;
 public final class FormTest {
     private static final Checks CHECKS = new Checks("FormTest");
     private static final Path SOURCE = Path.of("src/main/java/BridgeClub.java");
+    private static final Path DOCUMENT = Path.of("../shared/DOC.md");
     private static final String[] FACE = {
         "int deal(int)", "boolean swap(int,int,int)", "int hand(int,int)", "int board(int,int)",
         "boolean begin(int,int,int,int)", "int call(int,int)", "int play(int,int)", "boolean claim(int,int)",
@@ -35,6 +36,7 @@ public final class FormTest {
         face();
         classes();
         String source = Files.readString(SOURCE, StandardCharsets.ISO_8859_1);
+        faceOfTheDocument(Files.readString(DOCUMENT), source);
         words(source);
         methodLengths(source);
         CHECKS.end();
@@ -64,6 +66,29 @@ public final class FormTest {
         CHECKS.same("constructors", BridgeClub.class.getDeclaredConstructors().length, 1);
         CHECKS.same("public constructors", BridgeClub.class.getConstructors().length, 1);
         CHECKS.same("public fields", BridgeClub.class.getFields().length, 1);
+    }
+
+    /** Line by line, with the names of the parameters; and no promise is of a method that the face has not. */
+    private static void faceOfTheDocument(String document, String source) {
+        String face = document.substring(document.indexOf("```java"), document.indexOf("## Terms"));
+        int lines = 0;
+        for (String line : face.split("\n")) {
+            if (line.trim().startsWith("public ")) {
+                lines++;
+                String due = line.trim().endsWith(");") ? line.replace(");", ") {") : line;
+                CHECKS.yes("the face has " + line.trim(), source.contains("\n" + due + "\n"));
+            }
+        }
+        CHECKS.same("lines of the face", lines, 3 + FACE.length);
+        int promises = 0;
+        for (String part : document.split("(?m)^## Promise ")) {
+            if (part.matches("(?s)\\d+: .*")) {
+                promises++;
+                String head = part.substring(part.indexOf('`') + 1, part.indexOf('`', part.indexOf('`') + 1));
+                CHECKS.yes("the face has " + head, face.contains("    public " + head + ";"));
+            }
+        }
+        CHECKS.same("promises", promises, 1 + FACE.length);
     }
 
     private static String parameters(Method m) {

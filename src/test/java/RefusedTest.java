@@ -34,6 +34,7 @@ public final class RefusedTest {
     }
 
     public static void main(String[] args) {
+        CHECKS.about(0, "What is refused changes nothing.");
         for (Map.Entry<String, Run> entry : states().entrySet()) {
             RefusedTest test = new RefusedTest(entry.getKey(), entry.getValue());
             test.asTheSecondModel();
