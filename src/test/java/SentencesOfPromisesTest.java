@@ -227,7 +227,8 @@ public final class SentencesOfPromisesTest {
         CHECKS.about(17, "Whether a seat showed at a table, in PLAY, that it has none of a suit: it played another one "
                 + "when that was led.");
         Run x = inPlay(3).due("lacks 0 2 1 = 0", "play 0 13 = 0", "lacks 0 2 1 = 0", "play 0 27 = 0");
-        x.due("lacks 0 2 1 = 1", "lacks 0 2 0 = 0", "lacks 0 2 2 = 0", "lacks 0 2 3 = 0", "lacks 0 3 1 = 0", "lacks 0 1 1 = 0");
+        x.due("lacks 0 2 1 = 1", "lacks 0 2 0 = 0", "lacks 0 2 2 = 0", "lacks 0 2 3 = 0", "lacks 0 3 1 = 0");
+        x.due("lacks 0 1 1 = 0");
         x.cards(0, 40, 1).due("lacks 0 3 1 = 1", "lacks 0 0 1 = 1", "lacks 0 1 1 = 0", "lacks 1 2 1 = 0");
     }
 
